@@ -23,7 +23,9 @@ public final class PairShuffles {
     private static final int LENGTH_SHIFT = 20;
     private static final int LAST_KIND = 3;
     private static final int LAST_MEASURE = 3;
+    private static final int PAIR_TIMES = 0;
     private static final int RUNS = 1;
+    private static final int SAME_PLACES = 2;
     private static final int[] KINSHIP_ORDER = {2, 1, 3, 0};
 
     private final State now = new State();
@@ -340,21 +342,24 @@ public final class PairShuffles {
         return value >= 0 && value <= most;
     }
 
-    /** Puts the present state into the history; in a full one the oldest state's object is used again. */
     private void record() {
         if (pastStates >= past.length) {
-            State oldest = past[0];
-            for (int i = 1; i < past.length; i++) {
-                past[i - 1] = past[i];
-            }
-            past[past.length - 1] = oldest;
-            pastStates = past.length - 1;
+            dropOldest();
         }
-        State free = past[pastStates];
-        if (free != null) {
-            free.become(now);
+        if (pastStates >= 0 && pastStates < past.length && past[pastStates] != null) {
+            past[pastStates].become(now);
+            pastStates++;
         }
-        pastStates++;
+    }
+
+    /** The oldest state's object goes to the end, so that it is used again and no change makes a new one. */
+    private void dropOldest() {
+        State oldest = past[0];
+        for (int i = 1; i < past.length; i++) {
+            past[i - 1] = past[i];
+        }
+        past[past.length - 1] = oldest;
+        pastStates = past.length - 1;
     }
 
     private int moveBy(int kind, int steps) {
@@ -590,13 +595,13 @@ public final class PairShuffles {
         int gain(int place, int last, int letter) {
             boolean more;
             switch (which) {
-                case 0:
+                case PAIR_TIMES:
                     more = place > 0 && last == x && letter == y;
                     break;
                 case RUNS:
                     more = place == 0 || last != letter;
                     break;
-                case 2:
+                case SAME_PLACES:
                     more = letterOf(row, place) == letter;
                     break;
                 default:
@@ -695,7 +700,7 @@ public final class PairShuffles {
             for (int place = pairs ? 1 : 0; place < length; place++) {
                 int letter = letterOf(row, place);
                 int item = pairs ? letterOf(row, place - 1) * LETTERS + letter : letter;
-                if (item < stock.length) {
+                if (item >= 0 && item < stock.length) {
                     stock[item]++;
                 }
             }

@@ -87,6 +87,9 @@ public final class PairShufflesPromises {
         due("undo it", x.undo(), 3);
         due("undo it", x.undo(), 2);
         dueRow("after undo", x, "abc");
+        x = new PairShuffles();
+        due("clear nothing", x.clear(), 0);
+        due("which is a change", x.count(6), 1);
     }
 
     private static void testCode() {
@@ -174,6 +177,8 @@ public final class PairShufflesPromises {
         due("first letter missing", x.bias(2, 0, 0), MISSING);
         due("second letter missing", x.bias(0, 3, 1), MISSING);
         due("one letter", rowOf("c").bias(2, 2, 1), 1);
+        due("dd above", rowOf("cdd").bias(3, 3, 0), 3);
+        due("dd below", rowOf("cdd").bias(3, 3, 1), 4);
         due("of nothing", new PairShuffles().bias(0, 0, 0), MISSING);
         for (int bad : BAD_LETTERS) {
             due("bias x", x.bias(bad, 0, 0), INVALID);
@@ -363,6 +368,7 @@ public final class PairShufflesPromises {
                 due("of nothing", new PairShuffles().surprise(kind, what % 4, 0, 0, what), what == 0 ? 1 : 0);
             }
         }
+        due("pair of the last letters", rowOf("ddc").surprise(0, 0, 3, 3, 3), 2);
         due("sum of ten", rowOf("abcdabcdab").surprise(0, 2, 0, 0, 3), 65520);
         for (int bad : BAD_LETTERS) {
             due("surprise kind", x.surprise(bad, 1, 0, 0, 0), INVALID);
@@ -446,6 +452,18 @@ public final class PairShufflesPromises {
         due("other letters", x.kinship(0), MISSING);
         due("a row that is not there", x.kinship(1), MISSING);
         due("greatest place", x.kinship(Integer.MAX_VALUE), MISSING);
+        x.clear();
+        due("nothing is not in the book", x.kinship(1), MISSING);
+        type(x, "row abc;keep;row bca;").play();
+        due("a last letter is in no word", x.kinship(1), 0);
+        type(x, "row bac;").play();
+        due("the codes but not the pairs", x.code(1, 0, 1), 3);
+        due("kind 3 of three letters", x.kinship(1), 3);
+        x = rowOf("ab");
+        x.keep();
+        x.undo();
+        due("an undone row of the book", x.kinship(0), MISSING);
+        x.keep();
         due("place -1", x.kinship(-1), INVALID);
         type(x, "row abca;keep;row bcab;").play();
         due("the pairs alone don't make it", x.kinship(1), MISSING);
