@@ -354,6 +354,9 @@ public final class PairShuffles {
 
     /** The oldest state's object goes to the end, so that it is used again and no change makes a new one. */
     private void dropOldest() {
+        if (past.length < 1) {
+            return;
+        }
         State oldest = past[0];
         for (int i = 1; i < past.length; i++) {
             past[i - 1] = past[i];
