@@ -5,6 +5,7 @@ import java.lang.reflect.Modifier;
 import java.nio.file.Files;
 import java.nio.file.Path;
 import java.util.Arrays;
+import java.util.List;
 import java.util.Map;
 import java.util.Set;
 import java.util.TreeMap;
@@ -12,7 +13,7 @@ import java.util.TreeSet;
 import java.util.regex.Matcher;
 import java.util.regex.Pattern;
 
-/** The face of the class is the document's, and its text keeps to the words that LANGUAGE.md leaves. */
+/** The face of the class is the document's, and its text keeps to the words and sizes that LANGUAGE.md leaves. */
 public final class PairShufflesFace {
     private static final Map<String, Integer> CALLS = new TreeMap<>(Map.ofEntries(
             Map.entry("append", 1), Map.entry("clear", 0), Map.entry("code", 3), Map.entry("turn", 0),
@@ -99,8 +100,41 @@ public final class PairShufflesFace {
         }
     }
 
+    private static void testSizes() throws Exception {
+        Class<?>[] inside = PairShuffles.class.getDeclaredClasses();
+        holds(inside.length < 12, "at most 12 classes in the file: " + inside.length);
+        for (Class<?> one : inside) {
+            testParameters(one);
+            for (Field field : one.getDeclaredFields()) {
+                int modifiers = field.getModifiers();
+                holds(!Modifier.isStatic(modifiers) || Modifier.isFinal(modifiers), "static means final: " + field);
+            }
+        }
+        testParameters(PairShuffles.class);
+        List<String> lines = Files.readAllLines(Path.of("src/main/java/PairShuffles.java"));
+        int methods = 0;
+        for (int head = 0; head < lines.size(); head++) {
+            Matcher block = Pattern.compile("( {4}| {8})[^ ].*\\) \\{").matcher(lines.get(head));
+            if (block.matches()) {
+                methods++;
+                int end = lines.subList(head, lines.size()).indexOf(block.group(1) + "}");
+                holds(end > 0 && end < 60, "short is what begins with: " + lines.get(head));
+            }
+        }
+        holds(methods >= CALLS.size(), "methods are found by their first lines");
+    }
+
+    private static void testParameters(Class<?> one) {
+        for (Method method : one.getDeclaredMethods()) {
+            holds(method.getParameterCount() <= 7, "at most seven parameters: " + method);
+            holds(!Modifier.isPrivate(method.getModifiers()) || !CALLS.containsKey(method.getName()),
+                    "a private method has a public name: " + method);
+        }
+    }
+
     public static void main(String[] args) throws Exception {
         testClass();
+        testSizes();
         testMethods();
         testFields();
         testWords();
