@@ -13,9 +13,10 @@ import java.util.function.ToIntFunction;
 public final class PairShufflesRoom {
     private static final int MOST_OBJECTS = 40;
     private static final int MOST_ELEMENTS = 8000;
-    private static final int CALLS = 500;
-    // One object a call would be 16 bytes at least, 8000 for all of them.
-    private static final long MOST_BYTES = 4000;
+    // Two calls each and those of full() stay below 512, behind which nothing is promised.
+    private static final int CALLS = 200;
+    // One object a call would be 16 bytes at least, 3200 for all of them.
+    private static final long MOST_BYTES = 3000;
     private static int wrong = 0;
 
     private static void holds(boolean right, String what) {
